@@ -1,0 +1,135 @@
+import java.util.List;
+
+/**
+ * Paragraphs as texts. A word is a kind, or one of ( ) [ ] { } for a bracket of kind ON; behind it
+ * may stand /GROUP and :WIDTH (WORD and 1 if they do not). Answers for all places are texts too.
+ */
+final class Text {
+    static final List<String> KINDS = List.of("L", "R", "AL", "EN", "ES", "ET", "AN", "CS", "NSM",
+            "WS", "S", "ON", "LRE", "RLE", "LRO", "RLO", "PDF", "LRI", "RLI", "FSI", "PDI");
+    static final List<String> GROUPS = List.of("WORD", "BLANK", "OPENING", "CLOSING", "GLUE",
+            "FREE", "HYPHEN");
+    private static final String OPEN = "([{";
+    private static final String CLOSE = ")]}";
+
+    private Text() {
+    }
+
+    static TwoWayLines of(int base, String text) {
+        return of(base, 100, text);
+    }
+
+    static TwoWayLines of(int base, int measure, String text) {
+        TwoWayLines x = new TwoWayLines();
+        if (!x.base(base) || !x.measure(measure)) {
+            throw new IllegalArgumentException("base " + base + ", measure " + measure);
+        }
+        put(x, text);
+        return x;
+    }
+
+    static void put(TwoWayLines x, String text) {
+        for (String word : text.split(" ")) {
+            if (!putWord(x, word)) {
+                throw new IllegalArgumentException(word);
+            }
+        }
+    }
+
+    private static boolean putWord(TwoWayLines x, String word) {
+        String[] halves = word.split(":");
+        int width = halves.length > 1 ? Integer.parseInt(halves[1]) : 1;
+        String[] parts = halves[0].split("/");
+        int group = parts.length > 1 ? GROUPS.indexOf(parts[1]) : 0;
+        int open = OPEN.indexOf(parts[0]);
+        int close = CLOSE.indexOf(parts[0]);
+        if (open >= 0) {
+            return x.add(KINDS.indexOf("ON"), group, width, open + 1);
+        }
+        if (close >= 0) {
+            return x.add(KINDS.indexOf("ON"), group, width, -close - 1);
+        }
+        return x.add(KINDS.indexOf(parts[0]), group, width, 0);
+    }
+
+    static String types(TwoWayLines x) {
+        StringBuilder all = new StringBuilder();
+        for (int place = 0; place < x.length(); place++) {
+            int type = x.type(place);
+            all.append(place == 0 ? "" : " ").append(type == -1 ? "-" : KINDS.get(type));
+        }
+        return all.toString();
+    }
+
+    static String levels(TwoWayLines x) {
+        StringBuilder all = new StringBuilder();
+        for (int place = 0; place < x.length(); place++) {
+            all.append(place == 0 ? "" : " ").append(x.level(place));
+        }
+        return all.toString();
+    }
+
+    static String shownLevels(TwoWayLines x) {
+        StringBuilder all = new StringBuilder();
+        for (int place = 0; place < x.length(); place++) {
+            all.append(place == 0 ? "" : " ").append(x.shownLevel(place));
+        }
+        return all.toString();
+    }
+
+    static String matches(TwoWayLines x) {
+        StringBuilder all = new StringBuilder();
+        for (int place = 0; place < x.length(); place++) {
+            int match = x.match(place);
+            all.append(place == 0 ? "" : " ").append(match == -1 ? "-" : "" + match);
+        }
+        return all.toString();
+    }
+
+    static String partners(TwoWayLines x) {
+        StringBuilder all = new StringBuilder();
+        for (int place = 0; place < x.length(); place++) {
+            int partner = x.partner(place);
+            all.append(place == 0 ? "" : " ").append(partner == -1 ? "-" : "" + partner);
+        }
+        return all.toString();
+    }
+
+    /** The places before which a line may be broken. */
+    static String breaks(TwoWayLines x) {
+        StringBuilder all = new StringBuilder();
+        for (int place = 0; place < x.length(); place++) {
+            if (x.mayBreak(place)) {
+                all.append(all.length() == 0 ? "" : " ").append(place);
+            }
+        }
+        return all.toString();
+    }
+
+    /** The lines' starts with their extents, and the end of the last one. */
+    static String lines(TwoWayLines x) {
+        StringBuilder all = new StringBuilder();
+        for (int line = 0; line < x.lines(); line++) {
+            all.append(x.start(line)).append("=").append(x.extent(line)).append(" ");
+        }
+        return all.append(x.start(x.lines())).toString();
+    }
+
+    static String order(TwoWayLines x, int line) {
+        StringBuilder all = new StringBuilder();
+        for (int k = 0; x.shown(line, k) != TwoWayLines.NONE; k++) {
+            all.append(k == 0 ? "" : " ").append(x.shown(line, k));
+        }
+        return all.toString();
+    }
+
+    static String mirrored(TwoWayLines x) {
+        StringBuilder all = new StringBuilder();
+        for (int place = 0; place < x.length(); place++) {
+            if (x.mirrored(place)) {
+                all.append(all.length() == 0 ? "" : " ").append(place);
+            }
+        }
+        return all.toString();
+    }
+}
