@@ -203,7 +203,9 @@ public final class TwoWayLines {
         if (!stale) {
             return;
         }
-        levels.resolve(paragraph);
+        levels.readMarks(paragraph);
+        levels.resolveSequences(paragraph);
+        levels.raise(paragraph);
         filling.fill(paragraph, measure);
         showing.arrange(paragraph, levels, filling);
         stale = false;
@@ -218,15 +220,15 @@ public final class TwoWayLines {
     }
 
     private static boolean isHidden(int kind) {
-        return within(kind, LRE, PDF);
+        return kind >= LRE && kind <= PDF;
     }
 
     private static boolean isOpener(int kind) {
-        return within(kind, LRI, FSI);
+        return kind >= LRI && kind <= FSI;
     }
 
     private static boolean isIsolateMark(int kind) {
-        return within(kind, LRI, PDI);
+        return kind >= LRI && kind <= PDI;
     }
 
     private static int sideOf(int level) {
@@ -303,11 +305,6 @@ public final class TwoWayLines {
             }
             return 0;
         }
-
-        int directionBehind(Paragraph paragraph, int opener) {
-            int to = others[opener] == NONE ? paragraph.size : others[opener];
-            return direction(paragraph, opener + 1, to);
-        }
     }
 
     /** The EXPLICIT LEVELS, and the types that the characters have before the sequences' steps. */
@@ -361,10 +358,12 @@ public final class TwoWayLines {
         }
 
         private boolean wantsOdd(Paragraph paragraph, Matches matches, int opener) {
-            if (paragraph.kinds[opener] == FSI) {
-                return matches.directionBehind(paragraph, opener) == 1;
+            if (paragraph.kinds[opener] != FSI) {
+                return paragraph.kinds[opener] == RLI;
             }
-            return paragraph.kinds[opener] == RLI;
+            int match = matches.others[opener];
+            int to = match == NONE ? paragraph.size : match;
+            return matches.direction(paragraph, opener + 1, to) == 1;
         }
 
         private int nextLevel(boolean odd) {
@@ -673,18 +672,16 @@ public final class TwoWayLines {
         private final Sequence sequence = new Sequence();
         private final Brackets brackets = new Brackets();
 
-        void resolve(Paragraph paragraph) {
+        void readMarks(Paragraph paragraph) {
             matches.find(paragraph);
             ofParagraph = paragraph.base;
             if (paragraph.base == BASE_BY_TEXT) {
                 ofParagraph = matches.direction(paragraph, 0, paragraph.size);
             }
             explicit.assign(paragraph, matches, ofParagraph);
-            resolveSequences(paragraph);
-            raise(paragraph);
         }
 
-        private void resolveSequences(Paragraph paragraph) {
+        void resolveSequences(Paragraph paragraph) {
             for (int place = 0; place < paragraph.size; place++) {
                 types[place] = NONE;
                 partners[place] = NONE;
@@ -780,7 +777,8 @@ public final class TwoWayLines {
             }
         }
 
-        private void raise(Paragraph paragraph) {
+        /** A hidden character takes over the level before it. */
+        void raise(Paragraph paragraph) {
             int before = ofParagraph;
             for (int place = 0; place < paragraph.size; place++) {
                 if (!isHidden(paragraph.kinds[place])) {
