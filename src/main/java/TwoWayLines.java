@@ -307,7 +307,7 @@ public final class TwoWayLines {
         }
     }
 
-    /** The EXPLICIT LEVELS, and the types that the characters have before the sequences' steps. */
+    /** The EXPLICIT LEVELS, and the types before the sequences' steps; of hidden ones neither. */
     private static final class Explicit {
         final int[] levels = new int[LIMIT];
         final int[] types = new int[LIMIT];
@@ -327,13 +327,15 @@ public final class TwoWayLines {
                 if (kind == PDI) {
                     endIsolate();
                 }
-                give(place, kind);
-                if (isOpener(kind)) {
-                    beginIsolate(wantsOdd(paragraph, matches, place));
-                } else if (kind == PDF) {
+                if (kind == PDF) {
                     endEmbedding();
                 } else if (isHidden(kind)) {
                     beginEmbedding(kind);
+                } else {
+                    give(place, kind);
+                }
+                if (isOpener(kind)) {
+                    beginIsolate(wantsOdd(paragraph, matches, place));
                 }
             }
         }
@@ -350,11 +352,7 @@ public final class TwoWayLines {
 
         private void give(int place, int kind) {
             levels[place] = entryLevels[last];
-            if (isHidden(kind)) {
-                types[place] = NONE;
-            } else {
-                types[place] = entryOverrides[last] == NONE ? kind : entryOverrides[last];
-            }
+            types[place] = entryOverrides[last] == NONE ? kind : entryOverrides[last];
         }
 
         private boolean wantsOdd(Paragraph paragraph, Matches matches, int opener) {

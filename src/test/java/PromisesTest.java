@@ -1,5 +1,6 @@
 /** Each promise by hand-made examples: ordinary ones, the document's edges, wrong inputs. */
 public final class PromisesTest {
+    private static final int NONE = TwoWayLines.NONE;
     private static final int[] NO_PLACES = {-1, Integer.MIN_VALUE, Integer.MAX_VALUE, 64, 65};
     private static final Check CHECK = new Check();
 
@@ -12,6 +13,7 @@ public final class PromisesTest {
 
     public static void main(String[] args) {
         newObject();
+        asTheyAreThen();
         add();
         drop();
         clear();
@@ -51,6 +53,38 @@ public final class PromisesTest {
         due("1 base 2", x.paragraphLevel(), 1);
         Text.put(x, "L/FREE:3 L/FREE:3 L/FREE:3 L/FREE:1");
         due("1 measure 10", Text.lines(x), "0=10 4=1 5");
+    }
+
+    /** Nothing of an earlier paragraph, base or measure may be left in an answer. */
+    private static void asTheyAreThen() {
+        TwoWayLines x = Text.of(0, 2, "RLO LRE LRE LRE LRI LRI R/FREE ( NSM L/FREE ) NSM");
+        due("1 first", Text.levels(x), "0 0 0 0 4 4 5 4 4 4 4 4");
+        x.clear();
+        Text.put(x, "LRI LRE R PDI PDI WS L/FREE WS");
+        due("1 the marks are read anew", Text.levels(x), "0 0 5 0 0 0 0 0");
+        due("1 start asked first", x.drop() ? x.start(1) : NONE, 6);
+        x.measure(3);
+        due("1 extent asked first", x.extent(0), 3);
+        x.clear();
+        Text.put(x, "R ( L )");
+        due("1 no marks are left", Text.types(x), "R L L L");
+        x.measure(1);
+        due("1 shown asked first", x.shown(1, 0), 1);
+        x.base(1);
+        due("1 mirrored asked first", x.mirrored(1), true);
+        x.drop();
+        due("1 partner asked first", x.partner(1), NONE);
+        x.drop();
+        due("1 type asked first", x.type(1), 1);
+        x.base(2);
+        x.drop();
+        x.drop();
+        due("1 paragraphLevel asked first", x.paragraphLevel(), 0);
+        Text.put(x, "FSI R");
+        x.drop();
+        due("1 a dropped one gives no direction", Text.levels(x), "0");
+        Text.put(x, "WS");
+        due("1 direction behind an opener", Text.levels(x), "0 2");
     }
 
     private static void add() {
@@ -223,6 +257,8 @@ public final class PromisesTest {
         types(1, "AL R EN", "R R EN");
         types(1, "AL RLI L PDI EN", "R R L R AN");
         types(1, "AL LRI EN PDI", "R R L R");
+        types(0, "L AL L", "L R L");
+        types(0, "AL WS AL EN", "R R R AN");
         // W4
         types(1, "R EN ES EN", "R EN EN EN");
         types(1, "R EN CS EN CS EN", "R EN EN EN EN EN");
@@ -238,6 +274,7 @@ public final class PromisesTest {
         // W5, W6
         types(1, "R ET ET EN ET", "R EN EN EN EN");
         types(1, "R ET AN", "R R AN");
+        types(1, "ET EN", "EN EN");
         types(1, "AL ET EN", "R R AN");
         types(1, "R EN ET CS ET EN", "R EN EN R EN EN");
         types(1, "R EN ET ES EN", "R EN EN R EN");
@@ -265,6 +302,9 @@ public final class PromisesTest {
         types(0, "R ( EN ) L", "R R EN R L");
         types(0, "AN ( AN ) L", "AN R AN R L");
         types(1, "EN ( L ) L", "EN R L R L");
+        types(0, "R WS ( R ) L", "R R R R R L");
+        types(0, "AL ON ( AL ) L", "R R R R R L");
+        types(0, "RLE R PDF ( R ) L", "- R - R R R L");
         // an earlier pair counts for a later one
         types(0, "R ( L R ) [ R ] L", "R L L R L L R L L");
         types(0, "R [ ( R ) WS ] L", "R R R R R R R L");
@@ -277,6 +317,8 @@ public final class PromisesTest {
         types(0, "R ( NSM ) NSM L", "R L L L L L");
         types(1, "L ( NSM R ) NSM L", "L R R R R R L");
         types(0, "R ( L ) ON NSM R", "R L L L L L R");
+        types(0, "R ( R ) NSM L", "R R R R R L");
+        types(0, "R ( L ) NSM R", "R L L L L R");
     }
 
     private static void neutralTypes() {
@@ -323,6 +365,8 @@ public final class PromisesTest {
         types(0, "LRO RLE R PDF R PDF R", "- - R - L - R");
         types(0, "LRE RLE LRO RLO PDF", "- - - - -");
         types(0, "RLO L PDI L", "- R R R");
+        types(0, "RLE RLE R PDF PDF LRO ON PDF RLE RLE R", "- - R - - - L - - - R");
+        types(0, "LRE LRE L PDF PDF RLO ON PDF LRE LRE L", "- - L - - - R - - - L");
     }
 
     private static void levels(int base, String text, String want) {
@@ -364,6 +408,7 @@ public final class PromisesTest {
         levels(0, "LRI RLE R PDI L", "0 0 3 0 0");
         levels(0, "RLI PDF L PDI L", "0 0 2 0 0");
         levels(0, "RLE PDI L", "0 1 2");
+        levels(0, "LRI PDI RLE PDI L", "0 0 0 1 2");
         levels(0, "RLE LRI L PDI L PDF L", "0 1 2 1 2 2 0");
         // lost isolates
         levels(0, "LRE LRE LRI L PDI L PDF L", "0 0 4 4 4 4 4 2");
