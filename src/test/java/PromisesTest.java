@@ -85,6 +85,10 @@ public final class PromisesTest {
         due("1 a dropped one gives no direction", Text.levels(x), "0");
         Text.put(x, "WS");
         due("1 direction behind an opener", Text.levels(x), "0 2");
+        x.clear();
+        due("1 lines asked first", x.lines(), 0);
+        Text.put(x, "RLE PDI L");
+        due("1 no isolate is left open", Text.levels(x), "0 1 2");
     }
 
     private static void add() {
