@@ -4,12 +4,31 @@ import java.util.Objects;
 final class Check {
     private int asked = 0;
     private int wrong = 0;
+    private int sentences = 0;
+    private int askedBefore = 0;
+    private String sentence = "";
+
+    /** What is asked from now on is asked for this sentence of the document. */
+    void sentence(String words) {
+        endSentence();
+        sentence = words;
+        sentences++;
+        askedBefore = asked;
+    }
+
+    private void endSentence() {
+        if (sentences > 0 && asked == askedBefore) {
+            wrong++;
+            System.out.println("nothing was asked for: " + sentence);
+        }
+    }
 
     void due(String what, Object got, Object want) {
         asked++;
         if (!Objects.equals(got, want)) {
             wrong++;
-            System.out.println(what + " answered " + got + ", due is " + want);
+            System.out.println((sentence.isEmpty() ? "" : "[" + sentence + "] ") + what
+                    + " answered " + got + ", due is " + want);
         }
     }
 
@@ -18,7 +37,9 @@ final class Check {
     }
 
     void end() {
-        System.out.println(asked + " answers asked, " + wrong + " not as due");
+        endSentence();
+        System.out.println((sentences > 0 ? sentences + " sentences, " : "") + asked
+                + " answers asked, " + wrong + " not as due");
         if (wrong > 0 || asked == 0) {
             System.exit(1);
         }

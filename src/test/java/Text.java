@@ -123,6 +123,21 @@ final class Text {
         return all.toString();
     }
 
+    /** Every answer that the object gives, so that two states can be held against one another. */
+    static String everything(TwoWayLines x) {
+        StringBuilder all = new StringBuilder();
+        all.append(x.length()).append(" characters, level ").append(x.paragraphLevel());
+        all.append("; types ").append(types(x)).append("; levels ").append(levels(x));
+        all.append("; matches ").append(matches(x)).append("; partners ").append(partners(x));
+        all.append("; breaks ").append(breaks(x)).append("; lines ").append(lines(x));
+        all.append("; shown levels ").append(shownLevels(x)).append("; mirrored ");
+        all.append(mirrored(x)).append("; orders");
+        for (int line = 0; line < x.lines(); line++) {
+            all.append(" ").append(order(x, line)).append(";");
+        }
+        return all.toString();
+    }
+
     static String mirrored(TwoWayLines x) {
         StringBuilder all = new StringBuilder();
         for (int place = 0; place < x.length(); place++) {
