@@ -4,8 +4,9 @@ import java.util.Random;
 /**
  * The shown levels of one line beside those of java.text.Bidi, a reading of the same steps that is
  * not ours. It differs from the document, or does not tell, in these, which are left out here:
- * more than two levels above the base, marks right behind brackets, brackets in overrides, the
- * levels of hidden characters, and texts that it takes to have one direction only.
+ * paragraphs with more than two marks that open a level (its deepest level is another one), marks
+ * right behind brackets, brackets in overrides, the levels of hidden characters, and texts that it
+ * takes to have one direction only.
  */
 public final class LibraryTest {
     private static final int PARAGRAPHS = 60_000;
