@@ -1,3 +1,4 @@
+import java.util.ArrayList;
 import java.util.List;
 
 /**
@@ -29,27 +30,29 @@ final class Text {
     }
 
     static void put(TwoWayLines x, String text) {
-        for (String word : text.split(" ")) {
-            if (!putWord(x, word)) {
-                throw new IllegalArgumentException(word);
+        for (int[] one : characters(text)) {
+            if (!x.add(one[0], one[1], one[2], one[3])) {
+                throw new IllegalArgumentException(text);
             }
         }
     }
 
-    private static boolean putWord(TwoWayLines x, String word) {
+    /** Kind, group, width and pair of each word. */
+    static List<int[]> characters(String text) {
+        List<int[]> all = new ArrayList<>();
+        for (String word : text.split(" ")) {
+            all.add(character(word));
+        }
+        return all;
+    }
+
+    private static int[] character(String word) {
         String[] halves = word.split(":");
         int width = halves.length > 1 ? Integer.parseInt(halves[1]) : 1;
         String[] parts = halves[0].split("/");
         int group = parts.length > 1 ? GROUPS.indexOf(parts[1]) : 0;
-        int open = OPEN.indexOf(parts[0]);
-        int close = CLOSE.indexOf(parts[0]);
-        if (open >= 0) {
-            return x.add(KINDS.indexOf("ON"), group, width, open + 1);
-        }
-        if (close >= 0) {
-            return x.add(KINDS.indexOf("ON"), group, width, -close - 1);
-        }
-        return x.add(KINDS.indexOf(parts[0]), group, width, 0);
+        int pair = OPEN.indexOf(parts[0]) + 1 - (CLOSE.indexOf(parts[0]) + 1);
+        return new int[] {KINDS.indexOf(pair == 0 ? parts[0] : "ON"), group, width, pair};
     }
 
     static String types(TwoWayLines x) {
